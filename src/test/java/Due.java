@@ -1,0 +1,60 @@
+/** Compares answers with those that are due, prints each that differs, and tells the end by the exit code. */
+final class Due {
+    private static int compared = 0;
+    private static int wrong = 0;
+
+    private Due() {
+    }
+
+    static void due(String call, long got, long want) {
+        compared++;
+        if (got != want) {
+            wrong++;
+            System.out.println(call + " answered " + got + ", due is " + want);
+        }
+    }
+
+    static void holds(String what, boolean is) {
+        due(what, is ? 1 : 0, 1);
+    }
+
+    /** An answer, and the status that it leaves. */
+    static void due(StageSwitch x, String call, long got, long want, int status) {
+        due(call, got, want);
+        due("status() after " + call, x.status(), status);
+    }
+
+    static void finish() {
+        System.out.println(compared + " answers compared, " + wrong + " wrong");
+        if (wrong > 0 || compared == 0) {
+            System.exit(1);
+        }
+    }
+
+    /** A new object with one SHEET 0 of ints that holds these ITEMS. */
+    static StageSwitch withItems(int... items) {
+        StageSwitch x = new StageSwitch();
+        fill(x, 0, items);
+        return x;
+    }
+
+    static void fill(StageSwitch x, int sheet, int... items) {
+        x.sheet(sheet, 2, items.length);
+        for (int i = 0; i < items.length; i++) {
+            x.set(sheet, i, items[i]);
+        }
+    }
+
+    /**
+     * ITEM i (0 to 1000) of a SHEET of ints. The face tells no ITEM without setting it, so a copy of
+     * it is read as a DEMAND of one number.
+     */
+    static int item(StageSwitch x, int sheet, int i) {
+        int spare = sheet == 7 ? 6 : 7;
+        x.sheet(spare, 2, 1);
+        x.copy(sheet, i, spare, 0, 1);
+        int often = x.demand(spare, 0, 1, 0, -1);
+        x.drop(spare);
+        return often == StageSwitch.NONE ? 0 : often;
+    }
+}
