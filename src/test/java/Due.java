@@ -45,16 +45,9 @@ final class Due {
         }
     }
 
-    /**
-     * ITEM i (0 to 1000) of a SHEET of ints. The face tells no ITEM without setting it, so a copy of
-     * it is read as a DEMAND of one number.
-     */
+    /** ITEM i (0 to 1000) of a SHEET: the face tells no ITEM but as a DEMAND of one number. */
     static int item(StageSwitch x, int sheet, int i) {
-        int spare = sheet == 7 ? 6 : 7;
-        x.sheet(spare, 2, 1);
-        x.copy(sheet, i, spare, 0, 1);
-        int often = x.demand(spare, 0, 1, 0, -1);
-        x.drop(spare);
+        int often = x.demand(sheet, i, 1, 0, -1);
         return often == StageSwitch.NONE ? 0 : often;
     }
 }

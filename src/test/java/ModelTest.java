@@ -4,8 +4,6 @@
  */
 public final class ModelTest {
     private static final int RUNS = 300, CALLS = 512;
-    private static final String[] NAMES = {"sheet", "set", "copy", "drop", "net", "clear", "kind", "is", "as", "ask",
-        "trace", "call", "end", "line", "free", "die", "mend", "bit", "goes", "demand", "cross", "shut", "count"};
     private static final int[] FAR = {Integer.MIN_VALUE, Integer.MIN_VALUE + 1, -1000000, -2, -1, 64, 65, 100,
         1000000, Integer.MAX_VALUE - 1, Integer.MAX_VALUE};
 
@@ -36,40 +34,12 @@ public final class ModelTest {
         return kind == 0 ? FAR[below(FAR.length)] : kind == 1 ? most + 1 : kind == 2 ? -1 : below(most + 1);
     }
 
-    private static long answer(StageSwitch x, int which, int[] p) {
-        switch (which) {
-            case 0: return x.sheet(p[0], p[1], p[2]);
-            case 1: return x.set(p[0], p[1], p[2]);
-            case 2: return x.copy(p[0], p[1], p[2], p[3], p[4]);
-            case 3: return x.drop(p[0]);
-            case 4: return x.net(p[0], p[1], p[2], p[3]);
-            case 5: return x.clear(p[0]);
-            case 6: return x.kind(p[0]);
-            case 7: return x.is(p[0], p[1]);
-            case 8: return x.as(p[0], p[1]);
-            case 9: return x.ask(p[0], p[1]);
-            case 10: return x.trace(p[0]);
-            case 11: return x.call(p[0], p[1], p[2], p[3]);
-            case 12: return x.end(p[0], p[1]);
-            case 13: return x.line(p[0], p[1], p[2]);
-            case 14: return x.free(p[0], p[1], p[2], p[3]);
-            case 15: return x.die(p[0], p[1]);
-            case 16: return x.mend(p[0], p[1]);
-            case 17: return x.bit(p[0], p[1], p[2], p[3], p[4]);
-            case 18: return x.goes(p[0], p[1], p[2], p[3]);
-            case 19: return x.demand(p[0], p[1], p[2], p[3], p[4]);
-            case 20: return x.cross(p[0], p[1], p[2]);
-            case 21: return x.shut(p[0], p[1]);
-            default: return x.count(p[0]);
-        }
-    }
-
     private static void both(int run, StageSwitch x, Model model, int which, int... p) {
-        StringBuilder call = new StringBuilder("run " + run + ": " + NAMES[which]);
+        StringBuilder call = new StringBuilder("run " + run + ": " + Calls.NAMES.get(which));
         for (int number : p) {
             call.append(' ').append(number);
         }
-        Due.due(call.toString(), answer(x, which, p), model.answer(which, p));
+        Due.due(call.toString(), Calls.answer(x, which, p), model.answer(which, p));
         Due.due("status() after " + call, x.status(), model.answer(23, p));
     }
 
@@ -177,7 +147,7 @@ public final class ModelTest {
         StageSwitch x = new StageSwitch();
         Model model = new Model();
         for (int each = 0; each < CALLS; each++) {
-            int which = below(NAMES.length);
+            int which = below(Calls.NAMES.size() - 1);
             both(run, x, model, which, arguments(which));
         }
     }
