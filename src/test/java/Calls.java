@@ -1,10 +1,16 @@
+import java.util.ArrayList;
 import java.util.List;
+import java.util.Map;
 
-/** The calls of the face by name and by number, for tests that take their calls from rows. */
+/** The calls of the face by name and by number, for tests that take their calls from rows or from a text. */
 final class Calls {
     static final List<String> NAMES = List.of("sheet", "set", "copy", "drop", "net", "clear", "kind", "is", "as", "ask",
         "trace", "call", "end", "line", "free", "die", "mend", "bit", "goes", "demand", "cross", "shut", "count",
         "status");
+
+    private static final Map<String, Long> NUMBERS = Map.of("NONE", -1000000L, "BAD", -1000001L, "STATE", -1000002L,
+        "NULL", -1000011L, "PLACE", -1000012L, "KIND", -1000013L, "SIZE", -1000014L, "STORE", -1000015L,
+        "MIN", (long) Integer.MIN_VALUE, "MAX", (long) Integer.MAX_VALUE);
 
     private Calls() {
     }
@@ -36,5 +42,22 @@ final class Calls {
             case 22: return x.count(p[0]);
             default: return x.status();
         }
+    }
+
+    /** A number of a text, told by its signs or by its name. */
+    static long number(String word) {
+        Long named = NUMBERS.get(word);
+        return named == null ? Long.parseLong(word) : named;
+    }
+
+    /** All numbers of a text, but for the names of calls in it. */
+    static int[] numbers(String words) {
+        List<Integer> told = new ArrayList<>();
+        for (String word : words.split("[ ,=:]+")) {
+            if (!word.isEmpty() && !NAMES.contains(word)) {
+                told.add((int) number(word));
+            }
+        }
+        return told.stream().mapToInt(Integer::intValue).toArray();
     }
 }

@@ -24,6 +24,16 @@ final class Due {
         due("status() after " + call, x.status(), status);
     }
 
+    /** The answer, and the status behind it, that the Model gives. */
+    static void asModel(String run, StageSwitch x, Model model, int which, int... p) {
+        StringBuilder call = new StringBuilder(run + Calls.NAMES.get(which));
+        for (int number : p) {
+            call.append(' ').append(number);
+        }
+        due(call.toString(), Calls.answer(x, which, p), model.answer(which, p));
+        due("status() after " + call, x.status(), model.answer(Calls.NAMES.indexOf("status"), p));
+    }
+
     static void finish() {
         System.out.println(compared + " answers compared, " + wrong + " wrong");
         if (wrong > 0 || compared == 0) {

@@ -17,7 +17,7 @@ final class Model {
     private List<Integer> trace = new ArrayList<>();
     private int status = 0;
 
-    /** Call number which of the face, in the document's order from sheet = 0 to status = 24. */
+    /** Call number which of the face, in the document's order from sheet = 0 to status = 23. */
     long answer(int which, int[] p) {
         switch (which) {
             case 0: return sheet(p[0], p[1], p[2]);

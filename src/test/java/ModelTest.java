@@ -35,12 +35,7 @@ public final class ModelTest {
     }
 
     private static void both(int run, StageSwitch x, Model model, int which, int... p) {
-        StringBuilder call = new StringBuilder("run " + run + ": " + Calls.NAMES.get(which));
-        for (int number : p) {
-            call.append(' ').append(number);
-        }
-        Due.due(call.toString(), Calls.answer(x, which, p), model.answer(which, p));
-        Due.due("status() after " + call, x.status(), model.answer(23, p));
+        Due.asModel("run " + run + ": ", x, model, which, p);
     }
 
     /** One NET, full most of the time, whose middle ones die and are mended; now and then all its LINES. */

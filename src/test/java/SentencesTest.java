@@ -1,9 +1,6 @@
 import java.io.IOException;
 import java.nio.file.Files;
 import java.nio.file.Path;
-import java.util.ArrayList;
-import java.util.List;
-import java.util.Map;
 
 /**
  * Each sentence of the document that names a boundary case, with a test of its own: they stand in
@@ -22,10 +19,6 @@ import java.util.Map;
  * </pre>
  */
 public final class SentencesTest {
-    private static final Map<String, Long> NUMBERS = Map.of("NONE", -1000000L, "BAD", -1000001L, "STATE", -1000002L,
-        "NULL", -1000011L, "PLACE", -1000012L, "KIND", -1000013L, "SIZE", -1000014L, "STORE", -1000015L,
-        "MIN", (long) Integer.MIN_VALUE, "MAX", (long) Integer.MAX_VALUE);
-
     private static String sentence = "";
     private static int steps = 0;
     private static StageSwitch x = new StageSwitch();
@@ -57,7 +50,7 @@ public final class SentencesTest {
     private static void take(String step) {
         steps++;
         String[] words = step.split(" ", 3);
-        int[] told = numbers(step.substring(words[0].length()));
+        int[] told = Calls.numbers(step.substring(words[0].length()));
         switch (words[0]) {
             case "times":
                 for (int each = 0; each < told[0]; each++) {
@@ -90,11 +83,11 @@ public final class SentencesTest {
         String[] sides = step.split("=");
         String[] words = sides[0].trim().split(" ", 2);
         int which = Calls.NAMES.indexOf(words[0]);
-        int[] arguments = words.length > 1 ? numbers(words[1]) : new int[0];
+        int[] arguments = words.length > 1 ? Calls.numbers(words[1]) : new int[0];
         if (which < 0 || sides.length != 2) {
             throw new IllegalStateException("no such step: " + step);
         }
-        due(step, Calls.answer(x, which, arguments), number(sides[1].trim()));
+        due(step, Calls.answer(x, which, arguments), Calls.number(sides[1].trim()));
     }
 
     private static void fill(int[] told) {
@@ -133,20 +126,5 @@ public final class SentencesTest {
 
     private static void due(String step, long got, long want) {
         Due.due(sentence + step, got, want);
-    }
-
-    private static int[] numbers(String words) {
-        List<Integer> told = new ArrayList<>();
-        for (String word : words.split("[ ,=:]+")) {
-            if (!word.isEmpty() && !Calls.NAMES.contains(word)) {
-                told.add((int) number(word));
-            }
-        }
-        return told.stream().mapToInt(Integer::intValue).toArray();
-    }
-
-    private static long number(String word) {
-        Long named = NUMBERS.get(word);
-        return named == null ? Long.parseLong(word) : named;
     }
 }
